@@ -1,0 +1,63 @@
+/** Promise 8: step. */
+final class ScriptsTest {
+    private ScriptsTest() {
+    }
+
+    public static void main(String[] args) {
+        ordinaryScripts();
+        theFrontTakesTheGap();
+        readsWithoutScript();
+        whatThereIsNot();
+        Check.end();
+    }
+
+    private static void script(String letters, int k, String due) {
+        Run run = new Run(Reads.REFERENCE, Reads.read(letters, 40), k);
+        Check.same("script of " + letters, run.script(0), due);
+    }
+
+    private static void ordinaryScripts() {
+        script("GATTACAG", 0, "11111111");
+        script("GATCACAG", 1, "11111111");
+        script("GGCTCCGTTCGA", 2, "11111122111111");
+        script("GCTCCGTATGTT", 2, "111113311111");
+        script(Reads.opposite("GCTCCGTATGTT"), 2, "111113311111");
+        script("NGATTACAG", 1, "311111111");
+        script("GATTACAGGCTCNATG", 1, "1111111111111111");
+        script("GATTACAGGCTCNCA", 1, "111111111111311");
+    }
+
+    private static void theFrontTakesTheGap() {
+        // Of the two T's (positions 2 and 3) the first is left out, as the way goes from the back.
+        script("GATACAGGC", 1, "1121111111");
+        // Of three T's the first is put in.
+        script("GATTTACAGGC", 1, "11311111111");
+        script(Reads.opposite("GATACAGGC"), 1, "1121111111");
+    }
+
+    private static void readsWithoutScript() {
+        script("CCCCCCCC", 1, "");
+        Run doubtful = new Run(">r\nGGAAGGAA\n", Reads.read("GGAA", 40), 0);
+        Check.same("script of a doubtful read", doubtful.script(0), "");
+        // A read that was placed in the call before leaves no steps.
+        String[] before = {Reads.REFERENCE, Reads.read("GATTACAG", 40)};
+        Run run = new Run(before, 0, Reads.REFERENCE, Reads.read("CCCCCCCC", 40), 0);
+        Check.same("script of a lost read", run.script(0), "");
+        String[] twice = {Reads.REFERENCE, Reads.read("GATTACAGG", 40).repeat(2)};
+        run = new Run(twice, 0, Reads.REFERENCE, Reads.read("GATTA", 40), 0);
+        Check.same("script of a shorter read", run.script(0), "11111");
+        Check.same("script of no read", run.script(1), "");
+    }
+
+    private static void whatThereIsNot() {
+        Run run = new Run(Reads.REFERENCE, Reads.read("GATTACAG", 40), 0);
+        int[] steps = {Integer.MIN_VALUE, -1, 8, 9, 19, Integer.MAX_VALUE};
+        for (int i : steps) {
+            Check.same("step(0, " + i + ")", run.x().step(0, i), 0);
+        }
+        int[] others = {Integer.MIN_VALUE, -1, 1, 8, Integer.MAX_VALUE};
+        for (int r : others) {
+            Check.same("step(" + r + ", 0)", run.x().step(r, 0), 0);
+        }
+    }
+}
