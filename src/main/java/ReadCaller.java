@@ -49,7 +49,8 @@ public final class ReadCaller {
 
     private final Text referenceText = new Text(REFERENCE_ROOM);
     private final Text readsText = new Text(READS_ROOM);
-    private final Parser parser = new Parser();
+    private final Parser referenceParser = new Parser(referenceText);
+    private final Parser readsParser = new Parser(readsText);
     private final Aligner aligner = new Aligner();
     private final Pile pile = new Pile();
     private final Judge judge = new Judge();
@@ -83,11 +84,11 @@ public final class ReadCaller {
         if (k < 0 || k > MOST_CHANGES) {
             return NONE;
         }
-        int error = parser.parseReference(referenceText, draft);
+        int error = referenceParser.parseReference(draft);
         if (error != NONE) {
             return REFERENCE_ERROR - error;
         }
-        error = parser.parseReads(readsText, draft);
+        error = readsParser.parseReads(draft);
         if (error != NONE) {
             return READS_ERROR - error;
         }
@@ -278,19 +279,23 @@ public final class ReadCaller {
         }
     }
 
-    /** Reads the texts; once something is wrong, the place stays where it is. */
+    /** Reads a text; once something is wrong, the place stays where it is. */
     private static final class Parser {
         private static final int VISIBLE = 0;
         private static final int BASE = 1;
         private static final int LETTER = 2;
 
-        private Text text = null;
+        private final Text text;
         private int at = 0;
         private boolean wrong = false;
 
+        Parser(Text source) {
+            text = source;
+        }
+
         /** The place of the first error, or NONE. */
-        int parseReference(Text source, Sample sample) {
-            begin(source);
+        int parseReference(Sample sample) {
+            begin();
             expect('>');
             sample.nameLength = take(1, MOST_NAME, VISIBLE);
             for (int i = 0; i < sample.nameLength; i++) {
@@ -306,8 +311,8 @@ public final class ReadCaller {
         }
 
         /** The place of the first error, or NONE. */
-        int parseReads(Text source, Sample sample) {
-            begin(source);
+        int parseReads(Sample sample) {
+            begin();
             sample.readCount = 0;
             while (!wrong && at < text.used && sample.readCount < MOST_READS) {
                 takeRead(sample.reads[sample.readCount]);
@@ -316,8 +321,7 @@ public final class ReadCaller {
             return wrong || at < text.used ? at : NONE;
         }
 
-        private void begin(Text source) {
-            text = source;
+        private void begin() {
             at = 0;
             wrong = false;
         }

@@ -10,6 +10,7 @@ final class ErrorsTest {
         rightReferences();
         wrongReads();
         rightReads();
+        whatWasClearedDoesNotCount();
         theOrderOfRefusals();
         aRefusedCallChangesNothing();
         changedTextsChangeNothing();
@@ -53,6 +54,7 @@ final class ErrorsTest {
         reference(">a\n" + "A".repeat(48) + "\n\n", 52);
         reference(">a\n" + "ACGT\n".repeat(12) + "A\n", 63);
         reference(">a\n" + "A\n".repeat(48) + "A", 99);
+        reference(">abcdefgh\n" + "A\n".repeat(42) + "AAAAAA", 100);
     }
 
     private static void rightReferences() {
@@ -102,6 +104,25 @@ final class ErrorsTest {
         reads(Reads.read("ACGTN".repeat(3) + "A", 93), -1);
         Check.same("reads()", new Run(">a\nA\n", READ.repeat(8), 0).x().reads(), 8);
         Check.same("reads()", new Run(">a\nA\n", "", 0).x().reads(), 0);
+    }
+
+    private static void whatWasClearedDoesNotCount() {
+        ReadCaller x = new ReadCaller();
+        Run.putAll(x, 0, ">a\nACGT\n");
+        Run.putAll(x, 1, READ);
+        Check.same("call(0)", x.call(0), 0);
+        for (int n = 1; n < 8; n++) {
+            x.clear(0);
+            Run.putAll(x, 0, ">a\nACGT\n".substring(0, n));
+            Check.same("call(0)", x.call(0), -1000 - n);
+        }
+        x.clear(0);
+        Run.putAll(x, 0, ">a\nACGT\n");
+        for (int n = 1; n < READ.length(); n++) {
+            x.clear(1);
+            Run.putAll(x, 1, READ.substring(0, n));
+            Check.same("call(0)", x.call(0), -2000 - n);
+        }
     }
 
     private static void theOrderOfRefusals() {

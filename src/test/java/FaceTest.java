@@ -1,4 +1,3 @@
-import java.io.IOException;
 import java.lang.reflect.Constructor;
 import java.lang.reflect.Field;
 import java.lang.reflect.Method;
@@ -10,7 +9,7 @@ final class FaceTest {
     private FaceTest() {
     }
 
-    public static void main(String[] args) throws IOException {
+    public static void main(String[] args) {
         theFaceIsTheDocuments();
         aNewObjectIsEmpty();
         Check.end();

@@ -268,7 +268,8 @@ final class Oracle {
         List<String> excesses = new ArrayList<>();
         alleles.forEach(thing -> counts.add("" + often(site, thing)));
         penalties.forEach(penalty -> excesses.add("" + Math.min(255, penalty - least)));
-        String sample = String.join(":", choice, "" + site.size(), String.join(",", counts), String.join(",", excesses));
+        String depth = "" + site.size();
+        String sample = String.join(":", choice, depth, String.join(",", counts), String.join(",", excesses));
         String alt = String.join(",", shown.subList(1, shown.size()));
         String quality = "" + Math.min(999, penalties.get(0) - least);
         table.append(String.join("\t", name, "" + (p + 1), ".", shown.get(0), alt, quality, ".", ".",

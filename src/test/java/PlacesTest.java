@@ -99,5 +99,9 @@ final class PlacesTest {
             }
         }
         Check.same("a lost read", run.place(1), "1 -1 -1 -1 -1");
+        run = new Run(Reads.REFERENCE, Reads.read("GATTACAG", 40).repeat(8), 0);
+        Check.same("reads()", run.x().reads(), 8);
+        Check.same("the last read", run.place(7), "0 0 8 0 0");
+        Check.same("no read", run.place(8), "-1 -1 -1 -1 -1");
     }
 }

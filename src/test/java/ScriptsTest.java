@@ -7,6 +7,7 @@ final class ScriptsTest {
         ordinaryScripts();
         theFrontTakesTheGap();
         readsWithoutScript();
+        fewerReads();
         whatThereIsNot();
         Check.end();
     }
@@ -49,6 +50,23 @@ final class ScriptsTest {
         Check.same("script of no read", run.script(1), "");
     }
 
+    /** Fewer reads than two calls before: the reads that are no more have no steps. */
+    private static void fewerReads() {
+        ReadCaller x = new ReadCaller();
+        Run.putAll(x, 0, Reads.REFERENCE);
+        Run.putAll(x, 1, Reads.read("GATTACAGG", 40).repeat(2));
+        x.call(0);
+        Check.same("step(1, 0)", x.step(1, 0), 1);
+        x.clear(1);
+        Run.putAll(x, 1, Reads.read("GATTACAGG", 40));
+        for (int n = 0; n < 3; n++) {
+            x.call(0);
+            Check.same("step(0, 0)", x.step(0, 0), 1);
+            Check.same("step(1, 0)", x.step(1, 0), 0);
+            Check.same("place(1, 0)", x.place(1, 0), -1);
+        }
+    }
+
     private static void whatThereIsNot() {
         Run run = new Run(Reads.REFERENCE, Reads.read("GATTACAG", 40), 0);
         int[] steps = {Integer.MIN_VALUE, -1, 8, 9, 19, Integer.MAX_VALUE};
@@ -59,5 +77,8 @@ final class ScriptsTest {
         for (int r : others) {
             Check.same("step(" + r + ", 0)", run.x().step(r, 0), 0);
         }
+        run = new Run(Reads.REFERENCE, Reads.read("GATTACAG", 40).repeat(8), 0);
+        Check.same("step(7, 7)", run.x().step(7, 7), 1);
+        Check.same("step(8, 0)", run.x().step(8, 0), 0);
     }
 }

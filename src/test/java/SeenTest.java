@@ -107,6 +107,8 @@ final class SeenTest {
         seen(run, 47, "0 1 0 0");
         links(run, 46, "1 0 0");
         links(run, 47, "0 0 0");
+        seen(run, 48, "0 0 0 0");
+        links(run, 48, "0 0 0");
     }
 
     private static void aLaterCallForgets() {

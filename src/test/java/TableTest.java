@@ -50,6 +50,7 @@ final class TableTest {
         lines(some(4, WITH_A, 40), 1, "ref\t9\t.\tG\tA\t130\t.\t.\tGT:DP:AD:PL\t1/1:4:0,4:130,2,0");
         lines(some(4, Reads.opposite(WITH_A), 40), 1,
             "ref\t9\t.\tG\tA\t130\t.\t.\tGT:DP:AD:PL\t1/1:4:0,4:130,2,0");
+        lines(some(4, "AATTACAGG", 40), 1, "ref\t1\t.\tG\tA\t130\t.\t.\tGT:DP:AD:PL\t1/1:4:0,4:130,2,0");
         lines(some(2, PLAIN, 30) + some(2, WITH_A, 40), 1,
             "ref\t9\t.\tG\tA\t48\t.\t.\tGT:DP:AD:PL\t0/1:4:2,2:48,0,58");
         lines(some(3, WITH_A, 40), 1, "ref\t9\t.\tG\tA\t91\t.\t.\tGT:DP:AD:PL\t0/1:3:0,3:91,0,1");
@@ -90,6 +91,10 @@ final class TableTest {
         lines(some(4, GAIN_OF_TWO, 40), 2, "ref\t13\t.\tC\tCGT\t130\t.\t.\tGT:DP:AD:PL\t1/1:4:0,4:130,2,0");
         lines(some(4, Reads.opposite(GAIN_OF_TWO), 40), 2,
             "ref\t13\t.\tC\tCGT\t130\t.\t.\tGT:DP:AD:PL\t1/1:4:0,4:130,2,0");
+        lines(some(4, "GGCTCCTTCGAACT", 40), 3, "ref\t13\t.\tCATG\tC\t130\t.\t.\tGT:DP:AD:PL\t1/1:4:0,4:130,2,0");
+        lines(some(4, "CATGTATCGAACT", 40), 1, "ref\t17\t.\tT\tTA\t130\t.\t.\tGT:DP:AD:PL\t1/1:4:0,4:130,2,0");
+        lines(some(4, "GCTCCAAAATGTT", 40), 3, "ref\t13\t.\tC\tCAAA\t130\t.\t.\tGT:DP:AD:PL\t1/1:4:0,4:130,2,0");
+        lines(some(4, "GCTCCTTTATGTT", 40), 3, "ref\t13\t.\tC\tCTTT\t130\t.\t.\tGT:DP:AD:PL\t1/1:4:0,4:130,2,0");
         lines(some(2, LOSS_OF_TWO, 40) + some(2, GAIN_OF_TWO, 40), 2,
             "ref\t13\t.\tCAT\tC,CGTAT\t108\t.\t.\tGT:DP:AD:PL\t1/2:4:0,2,2:108,54,58,54,0,58");
         lines(some(2, LOSS_OF_TWO, 40) + some(2, LOSS_OF_ONE, 40), 2,
