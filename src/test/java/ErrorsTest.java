@@ -17,91 +17,82 @@ final class ErrorsTest {
         Check.end();
     }
 
-    private static void reference(String text, int error) {
-        Check.same("reference " + text, new Run(text, "", 0).answer(), error < 0 ? 0 : -1000 - error);
-    }
-
-    private static void reads(String text, int error) {
-        int got = new Run(">a\nAAAAAAAA\n", text, 0).answer();
-        Check.same("reads " + text, got, error < 0 ? 0 : -2000 - error);
-    }
-
     private static void wrongReferences() {
-        reference("", 0);
-        reference("x", 0);
-        reference("\n", 0);
-        reference(" >a\nA\n", 0);
-        reference(">", 1);
-        reference(">\n", 1);
-        reference("> a\nA\n", 1);
-        reference(">a b\nA\n", 2);
-        reference(">abcdefgh", 9);
-        reference(">abcdefghi\nA\n", 9);
-        reference(">abcdefgh\n", 10);
-        reference(">a\n\n", 3);
-        reference(">a\n\nA\n", 3);
-        reference(">a\n>", 3);
-        reference(">a\nACGN\n", 6);
-        reference(">a\nACgT\n", 5);
-        reference(">a\nAC T\n", 5);
-        reference(">a\nACGT", 7);
-        reference(">a\nACGT\n\n", 8);
-        reference(">a\nACGT\nAC", 10);
-        reference(">a\nACGT\n>b\nA\n", 8);
-        reference(">a\n" + "A".repeat(48), 51);
-        reference(">a\n" + "A".repeat(49) + "\n", 51);
-        reference(">a\n" + "A".repeat(48) + "\nA\n", 52);
-        reference(">a\n" + "A".repeat(48) + "\n\n", 52);
-        reference(">a\n" + "ACGT\n".repeat(12) + "A\n", 63);
-        reference(">a\n" + "A\n".repeat(48) + "A", 99);
-        reference(">abcdefgh\n" + "A\n".repeat(42) + "AAAAAA", 100);
+        Due.reference("", 0);
+        Due.reference("x", 0);
+        Due.reference("\n", 0);
+        Due.reference(" >a\nA\n", 0);
+        Due.reference(">", 1);
+        Due.reference(">\n", 1);
+        Due.reference("> a\nA\n", 1);
+        Due.reference(">a b\nA\n", 2);
+        Due.reference(">abcdefgh", 9);
+        Due.reference(">abcdefghi\nA\n", 9);
+        Due.reference(">abcdefgh\n", 10);
+        Due.reference(">a\n\n", 3);
+        Due.reference(">a\n\nA\n", 3);
+        Due.reference(">a\n>", 3);
+        Due.reference(">a\nACGN\n", 6);
+        Due.reference(">a\nACgT\n", 5);
+        Due.reference(">a\nAC T\n", 5);
+        Due.reference(">a\nACGT", 7);
+        Due.reference(">a\nACGT\n\n", 8);
+        Due.reference(">a\nACGT\nAC", 10);
+        Due.reference(">a\nACGT\n>b\nA\n", 8);
+        Due.reference(">a\n" + "A".repeat(48), 51);
+        Due.reference(">a\n" + "A".repeat(49) + "\n", 51);
+        Due.reference(">a\n" + "A".repeat(48) + "\nA\n", 52);
+        Due.reference(">a\n" + "A".repeat(48) + "\n\n", 52);
+        Due.reference(">a\n" + "ACGT\n".repeat(12) + "A\n", 63);
+        Due.reference(">a\n" + "A\n".repeat(48) + "A", 99);
+        Due.reference(">abcdefgh\n" + "A\n".repeat(42) + "AAAAAA", 100);
     }
 
     private static void rightReferences() {
-        reference(">a\nA\n", -1);
-        reference(">!~>@+\"#$\nACGT\n", -1);
-        reference(">a\n" + "A".repeat(48) + "\n", -1);
-        reference(">abcdefgh\nA\nCG\nT\n", -1);
-        reference(">a\n" + "A\n".repeat(48), -1);
+        Due.reference(">a\nA\n", -1);
+        Due.reference(">!~>@+\"#$\nACGT\n", -1);
+        Due.reference(">a\n" + "A".repeat(48) + "\n", -1);
+        Due.reference(">abcdefgh\nA\nCG\nT\n", -1);
+        Due.reference(">a\n" + "A\n".repeat(48), -1);
     }
 
     private static void wrongReads() {
-        reads("x", 0);
-        reads("\n", 0);
-        reads("@", 1);
-        reads("@\n", 1);
-        reads("@ \n", 1);
-        reads("@abcdefghi\n", 9);
-        reads("@abcdefgh\n", 10);
-        reads("@a\n", 3);
-        reads("@a\nACG\n", 6);
-        reads("@a\nACGT", 7);
-        reads("@a\nACXT\n+\n!!!!\n", 5);
-        reads("@a\nACnT\n+\n!!!!\n", 5);
-        reads("@a\nACGT\n", 8);
-        reads("@a\nACGT\n-\n!!!!\n", 8);
-        reads("@a\nACGT\n+", 9);
-        reads("@a\nACGT\n+a\n!!!!\n", 9);
-        reads("@a\nACGT\n+\n", 10);
-        reads("@a\nACGT\n+\n!!!\n", 13);
-        reads("@a\nACGT\n+\n!!!!", 14);
-        reads("@a\nACGT\n+\n!!!!!\n", 14);
-        reads("@a\nACGT\n+\n!! !\n", 12);
-        reads("@a\n" + "A".repeat(17) + "\n", 19);
-        reads(READ + "\n", 15);
-        reads(READ + ">a\n", 15);
-        reads(READ + "@a\nACGT\n+\n!!!\n", 28);
-        reads(READ.repeat(8) + "@", 120);
-        reads(READ.repeat(8) + READ, 120);
-        reads(READ.repeat(8) + "\n", 120);
+        Due.reads("x", 0);
+        Due.reads("\n", 0);
+        Due.reads("@", 1);
+        Due.reads("@\n", 1);
+        Due.reads("@ \n", 1);
+        Due.reads("@abcdefghi\n", 9);
+        Due.reads("@abcdefgh\n", 10);
+        Due.reads("@a\n", 3);
+        Due.reads("@a\nACG\n", 6);
+        Due.reads("@a\nACGT", 7);
+        Due.reads("@a\nACXT\n+\n!!!!\n", 5);
+        Due.reads("@a\nACnT\n+\n!!!!\n", 5);
+        Due.reads("@a\nACGT\n", 8);
+        Due.reads("@a\nACGT\n-\n!!!!\n", 8);
+        Due.reads("@a\nACGT\n+", 9);
+        Due.reads("@a\nACGT\n+a\n!!!!\n", 9);
+        Due.reads("@a\nACGT\n+\n", 10);
+        Due.reads("@a\nACGT\n+\n!!!\n", 13);
+        Due.reads("@a\nACGT\n+\n!!!!", 14);
+        Due.reads("@a\nACGT\n+\n!!!!!\n", 14);
+        Due.reads("@a\nACGT\n+\n!! !\n", 12);
+        Due.reads("@a\n" + "A".repeat(17) + "\n", 19);
+        Due.reads(READ + "\n", 15);
+        Due.reads(READ + ">a\n", 15);
+        Due.reads(READ + "@a\nACGT\n+\n!!!\n", 28);
+        Due.reads(READ.repeat(8) + "@", 120);
+        Due.reads(READ.repeat(8) + READ, 120);
+        Due.reads(READ.repeat(8) + "\n", 120);
     }
 
     private static void rightReads() {
-        reads("", -1);
-        reads(READ, -1);
-        reads("@@+>!~abc\nNNNN\n+\n@+~!\n", -1);
-        reads(READ.repeat(8), -1);
-        reads(Reads.read("ACGTN".repeat(3) + "A", 93), -1);
+        Due.reads("", -1);
+        Due.reads(READ, -1);
+        Due.reads("@@+>!~abc\nNNNN\n+\n@+~!\n", -1);
+        Due.reads(READ.repeat(8), -1);
+        Due.reads(Reads.read("ACGTN".repeat(3) + "A", 93), -1);
         Check.same("reads()", new Run(">a\nA\n", READ.repeat(8), 0).x().reads(), 8);
         Check.same("reads()", new Run(">a\nA\n", "", 0).x().reads(), 0);
     }

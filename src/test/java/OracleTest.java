@@ -76,7 +76,7 @@ final class OracleTest {
 
     /** Eight reads with three changes each, all at different positions. */
     private static void theMostSites() {
-        String bases = "GATTACAGGCTCCATGTTCGAACTTGCAGAGCCGTATACGGTCTAAGC";
+        String bases = Reads.MOST_BASES;
         boolean[] changed = new boolean[bases.length()];
         StringBuilder reads = new StringBuilder();
         for (int r = 0; r < 8; r++) {

@@ -15,72 +15,66 @@ final class PlacesTest {
         Check.end();
     }
 
-    private static void place(String bases, String letters, int k, String due) {
-        Run run = new Run(">r\n" + bases + "\n", Reads.read(letters, 40), k);
-        Check.same(letters + " on " + bases + " within " + k, run.place(0), due);
-        Check.same("reads()", run.x().reads(), 1);
-    }
-
     private static void forwardAndBackward() {
-        place(Reads.BASES, "GATTACAG", 0, "0 0 8 0 0");
-        place(Reads.BASES, "CTCCATGTT", 3, "0 9 18 0 0");
-        place(Reads.BASES, Reads.opposite("CTCCATGTT"), 0, "0 9 18 0 1");
-        place(Reads.BASES, "TTCGAACT", 0, "0 16 24 0 0");
-        place(Reads.BASES, Reads.opposite("ACAGGCTCCATG"), 2, "0 4 16 0 1");
+        Due.place(Reads.BASES, "GATTACAG", 0, "0 0 8 0 0");
+        Due.place(Reads.BASES, "CTCCATGTT", 3, "0 9 18 0 0");
+        Due.place(Reads.BASES, Reads.opposite("CTCCATGTT"), 0, "0 9 18 0 1");
+        Due.place(Reads.BASES, "TTCGAACT", 0, "0 16 24 0 0");
+        Due.place(Reads.BASES, Reads.opposite("ACAGGCTCCATG"), 2, "0 4 16 0 1");
     }
 
     private static void theLeastDistanceCounts() {
-        place(Reads.BASES, "GATTACAGGCTC".replace("ACA", "ATA"), 1, "0 0 12 1 0");
-        place(Reads.BASES, "GATTAAGGCTC", 1, "0 0 12 1 0");
-        place(Reads.BASES, "GATTACTAGGCTC", 1, "0 0 12 1 0");
-        place(Reads.BASES, Reads.opposite("GGCTCCGTTCGA"), 2, "0 7 21 2 1");
-        place(Reads.BASES, "GGCTCCGTTCGA", 3, "0 7 21 2 0");
+        Due.place(Reads.BASES, "GATTACAGGCTC".replace("ACA", "ATA"), 1, "0 0 12 1 0");
+        Due.place(Reads.BASES, "GATTAAGGCTC", 1, "0 0 12 1 0");
+        Due.place(Reads.BASES, "GATTACTAGGCTC", 1, "0 0 12 1 0");
+        Due.place(Reads.BASES, Reads.opposite("GGCTCCGTTCGA"), 2, "0 7 21 2 1");
+        Due.place(Reads.BASES, "GGCTCCGTTCGA", 3, "0 7 21 2 0");
     }
 
     private static void lostReads() {
-        place(Reads.BASES, "GATTAAGGCTC", 0, "1 -1 -1 -1 -1");
-        place(Reads.BASES, "GGCTCCGTTCGA", 1, "1 -1 -1 -1 -1");
-        place("A", "ACCCC", 3, "1 -1 -1 -1 -1");
-        place("A", "CACC", 3, "0 0 1 3 0");
-        place("A", "CACC", 2, "1 -1 -1 -1 -1");
-        place("ACGTACGT", "NNNN", 3, "1 -1 -1 -1 -1");
+        Due.place(Reads.BASES, "GATTAAGGCTC", 0, Due.LOST);
+        Due.place(Reads.BASES, "GGCTCCGTTCGA", 1, Due.LOST);
+        Due.place("A", "ACCCC", 3, Due.LOST);
+        Due.place("A", "CACC", 3, "0 0 1 3 0");
+        Due.place("A", "CACC", 2, Due.LOST);
+        Due.place("ACGTACGT", "NNNN", 3, Due.LOST);
     }
 
     private static void doubtfulReads() {
         // Two optima side by side share no position; two that overlap in one position do.
-        place("GGAAGGAA", "GGAA", 0, "2 -1 -1 -1 -1");
-        place("GAGGAGGAG", "GAGGAG", 0, "0 0 6 0 0");
-        place("GAGGAGGAGCT", "GAGG", 0, "0 0 4 0 0");
-        place("CAACAACAACAA", "CAAC", 0, "2 -1 -1 -1 -1");
-        place("CAACAAC", "CAAC", 0, "0 0 4 0 0");
+        Due.place("GGAAGGAA", "GGAA", 0, Due.DOUBTFUL);
+        Due.place("GAGGAGGAG", "GAGGAG", 0, "0 0 6 0 0");
+        Due.place("GAGGAGGAGCT", "GAGG", 0, "0 0 4 0 0");
+        Due.place("CAACAACAACAA", "CAAC", 0, Due.DOUBTFUL);
+        Due.place("CAACAAC", "CAAC", 0, "0 0 4 0 0");
         // One forward, one backward, apart from one another.
-        place("AAGAGCTCTT", "AAGAG", 0, "2 -1 -1 -1 -1");
+        Due.place("AAGAGCTCTT", "AAGAG", 0, Due.DOUBTFUL);
         // Both directions, the same interval.
-        place("CAATTC", "AATT", 0, "0 1 5 0 0");
+        Due.place("CAATTC", "AATT", 0, "0 1 5 0 0");
     }
 
     private static void optimaThatOverlap() {
-        place("CAAAAAC", "AAAA", 0, "0 1 5 0 0");
-        place("CAAAAAAAC", "AAAA", 0, "0 1 5 0 0");
-        place("CAAAAAAAAC", "AAAA", 0, "2 -1 -1 -1 -1");
+        Due.place("CAAAAAC", "AAAA", 0, "0 1 5 0 0");
+        Due.place("CAAAAAAAC", "AAAA", 0, "0 1 5 0 0");
+        Due.place("CAAAAAAAAC", "AAAA", 0, Due.DOUBTFUL);
     }
 
     private static void theOrderAmongOptima() {
         // A change of the last letter, or leaving it away, are both one step: the shorter interval is taken.
-        place("ACGTTACCA", "ACGTTAG", 1, "0 0 6 1 0");
+        Due.place("ACGTTACCA", "ACGTTAG", 1, "0 0 6 1 0");
         // The first letter changed, or put in: the interval from before it starts earlier.
-        place("TACGTTAC", "GACGTTAC", 1, "0 0 8 1 0");
+        Due.place("TACGTTAC", "GACGTTAC", 1, "0 0 8 1 0");
         // A backward optimum that starts earlier goes before a forward one.
-        place("GAATTC", "AATTC", 0, "0 0 5 0 1");
-        place("GAATTC", "GAATT", 0, "0 0 5 0 0");
-        place("GGAATTCAG", "TGAATT", 0, "0 2 8 0 1");
+        Due.place("GAATTC", "AATTC", 0, "0 0 5 0 1");
+        Due.place("GAATTC", "GAATT", 0, "0 0 5 0 0");
+        Due.place("GGAATTCAG", "TGAATT", 0, "0 2 8 0 1");
     }
 
     private static void unknownLetters() {
-        place(Reads.BASES, "GATTNCAG", 1, "0 0 8 1 0");
-        place(Reads.BASES, "GATTNCAG", 0, "1 -1 -1 -1 -1");
-        place(Reads.BASES, Reads.opposite("GATTNCAG"), 1, "0 0 8 1 1");
-        place(Reads.BASES, "NGATTACAGN", 3, "0 0 8 2 0");
+        Due.place(Reads.BASES, "GATTNCAG", 1, "0 0 8 1 0");
+        Due.place(Reads.BASES, "GATTNCAG", 0, Due.LOST);
+        Due.place(Reads.BASES, Reads.opposite("GATTNCAG"), 1, "0 0 8 1 1");
+        Due.place(Reads.BASES, "NGATTACAGN", 3, "0 0 8 2 0");
     }
 
     private static void whatThereIsNot() {
@@ -98,10 +92,10 @@ final class PlacesTest {
                 Check.same("place(" + r + ", " + what + ")", run.x().place(r, what), -1);
             }
         }
-        Check.same("a lost read", run.place(1), "1 -1 -1 -1 -1");
+        Check.same("a lost read", run.place(1), Due.LOST);
         run = new Run(Reads.REFERENCE, Reads.read("GATTACAG", 40).repeat(8), 0);
         Check.same("reads()", run.x().reads(), 8);
         Check.same("the last read", run.place(7), "0 0 8 0 0");
-        Check.same("no read", run.place(8), "-1 -1 -1 -1 -1");
+        Check.same("no read", run.place(8), Due.NO_READ);
     }
 }

@@ -1,6 +1,8 @@
 /** Writes texts of references and reads. */
 final class Reads {
     static final String BASES = "GATTACAGGCTCCATGTTCGAACT";
+    /** As many positions as there may be; no two parts of it are much alike. */
+    static final String MOST_BASES = BASES + "TGCAGAGCCGTATACGGTCTAAGC";
     static final String REFERENCE = ">ref\n" + BASES + "\n";
     static final String FIRST_LINES =
         "##fileformat=VCFv4.3\n#CHROM\tPOS\tID\tREF\tALT\tQUAL\tFILTER\tINFO\tFORMAT\tS\n";
@@ -15,6 +17,11 @@ final class Reads {
     /** A read with one quality for all its letters. */
     static String read(String letters, int quality) {
         return read(letters, String.valueOf((char) (33 + quality)).repeat(letters.length()));
+    }
+
+    /** The same read several times. */
+    static String some(int n, String letters, int quality) {
+        return read(letters, quality).repeat(n);
     }
 
     static String opposite(String letters) {

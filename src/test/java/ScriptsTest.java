@@ -12,32 +12,27 @@ final class ScriptsTest {
         Check.end();
     }
 
-    private static void script(String letters, int k, String due) {
-        Run run = new Run(Reads.REFERENCE, Reads.read(letters, 40), k);
-        Check.same("script of " + letters, run.script(0), due);
-    }
-
     private static void ordinaryScripts() {
-        script("GATTACAG", 0, "11111111");
-        script("GATCACAG", 1, "11111111");
-        script("GGCTCCGTTCGA", 2, "11111122111111");
-        script("GCTCCGTATGTT", 2, "111113311111");
-        script(Reads.opposite("GCTCCGTATGTT"), 2, "111113311111");
-        script("NGATTACAG", 1, "311111111");
-        script("GATTACAGGCTCNATG", 1, "1111111111111111");
-        script("GATTACAGGCTCNCA", 1, "111111111111311");
+        Due.script(Reads.BASES, "GATTACAG", 0, "11111111");
+        Due.script(Reads.BASES, "GATCACAG", 1, "11111111");
+        Due.script(Reads.BASES, "GGCTCCGTTCGA", 2, "11111122111111");
+        Due.script(Reads.BASES, "GCTCCGTATGTT", 2, "111113311111");
+        Due.script(Reads.BASES, Reads.opposite("GCTCCGTATGTT"), 2, "111113311111");
+        Due.script(Reads.BASES, "NGATTACAG", 1, "311111111");
+        Due.script(Reads.BASES, "GATTACAGGCTCNATG", 1, "1111111111111111");
+        Due.script(Reads.BASES, "GATTACAGGCTCNCA", 1, "111111111111311");
     }
 
     private static void theFrontTakesTheGap() {
         // Of the two T's (positions 2 and 3) the first is left out, as the way goes from the back.
-        script("GATACAGGC", 1, "1121111111");
+        Due.script(Reads.BASES, "GATACAGGC", 1, "1121111111");
         // Of three T's the first is put in.
-        script("GATTTACAGGC", 1, "11311111111");
-        script(Reads.opposite("GATACAGGC"), 1, "1121111111");
+        Due.script(Reads.BASES, "GATTTACAGGC", 1, "11311111111");
+        Due.script(Reads.BASES, Reads.opposite("GATACAGGC"), 1, "1121111111");
     }
 
     private static void readsWithoutScript() {
-        script("CCCCCCCC", 1, "");
+        Due.script(Reads.BASES, "CCCCCCCC", 1, "");
         Run doubtful = new Run(">r\nGGAAGGAA\n", Reads.read("GGAA", 40), 0);
         Check.same("script of a doubtful read", doubtful.script(0), "");
         // A read that was placed in the call before leaves no steps.

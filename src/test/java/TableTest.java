@@ -25,79 +25,68 @@ final class TableTest {
         Check.end();
     }
 
-    private static String some(int n, String letters, int quality) {
-        return Reads.read(letters, quality).repeat(n);
-    }
-
-    private static void lines(String reads, int k, String... due) {
-        Run run = new Run(Reads.REFERENCE, reads, k);
-        StringBuilder table = new StringBuilder(Reads.FIRST_LINES);
-        for (String line : due) {
-            table.append(line).append('\n');
-        }
-        Check.same("sites reported", run.answer(), due.length);
-        Check.same("table", run.table(), table.toString());
-        Check.same("length()", run.x().length(), table.length());
-    }
-
     private static void noDifference() {
-        lines("", 0);
-        lines(some(3, PLAIN, 40), 3);
-        lines(some(4, WITH_A, 40), 0);
+        Due.lines("", 0);
+        Due.lines(Reads.some(3, PLAIN, 40), 3);
+        Due.lines(Reads.some(4, WITH_A, 40), 0);
     }
 
     private static void oneOtherBase() {
-        lines(some(4, WITH_A, 40), 1, "ref\t9\t.\tG\tA\t130\t.\t.\tGT:DP:AD:PL\t1/1:4:0,4:130,2,0");
-        lines(some(4, Reads.opposite(WITH_A), 40), 1,
+        Due.lines(Reads.some(4, WITH_A, 40), 1, "ref\t9\t.\tG\tA\t130\t.\t.\tGT:DP:AD:PL\t1/1:4:0,4:130,2,0");
+        Due.lines(Reads.some(4, Reads.opposite(WITH_A), 40), 1,
             "ref\t9\t.\tG\tA\t130\t.\t.\tGT:DP:AD:PL\t1/1:4:0,4:130,2,0");
-        lines(some(4, "AATTACAGG", 40), 1, "ref\t1\t.\tG\tA\t130\t.\t.\tGT:DP:AD:PL\t1/1:4:0,4:130,2,0");
-        lines(some(2, PLAIN, 30) + some(2, WITH_A, 40), 1,
+        Due.lines(Reads.some(4, "AATTACAGG", 40), 1, "ref\t1\t.\tG\tA\t130\t.\t.\tGT:DP:AD:PL\t1/1:4:0,4:130,2,0");
+        Due.lines(Reads.some(2, PLAIN, 30) + Reads.some(2, WITH_A, 40), 1,
             "ref\t9\t.\tG\tA\t48\t.\t.\tGT:DP:AD:PL\t0/1:4:2,2:48,0,58");
-        lines(some(3, WITH_A, 40), 1, "ref\t9\t.\tG\tA\t91\t.\t.\tGT:DP:AD:PL\t0/1:3:0,3:91,0,1");
+        Due.lines(Reads.some(3, WITH_A, 40), 1, "ref\t9\t.\tG\tA\t91\t.\t.\tGT:DP:AD:PL\t0/1:3:0,3:91,0,1");
     }
 
     private static void tiesGoToTheFirstPair() {
         // 0/0 has 23 and so has 0/1.
-        lines(some(1, WITH_A, 23), 1);
-        lines(some(1, WITH_A, 24), 1, "ref\t9\t.\tG\tA\t1\t.\t.\tGT:DP:AD:PL\t0/1:1:0,1:1,0,7");
+        Due.lines(Reads.some(1, WITH_A, 23), 1);
+        Due.lines(Reads.some(1, WITH_A, 24), 1, "ref\t9\t.\tG\tA\t1\t.\t.\tGT:DP:AD:PL\t0/1:1:0,1:1,0,7");
         // 0/1 has 32 and so has 1/1.
-        lines(some(3, WITH_A, 40) + some(1, PLAIN, 2), 1,
+        Due.lines(Reads.some(3, WITH_A, 40) + Reads.some(1, PLAIN, 2), 1,
             "ref\t9\t.\tG\tA\t88\t.\t.\tGT:DP:AD:PL\t0/1:4:1,3:88,0,0");
         // 0/1 and 0/2 have 66 both, and no other pair has less.
-        lines(some(1, WITH_A, 40) + some(1, WITH_C, 40) + some(1, PLAIN, 40), 1,
+        Due.lines(Reads.some(1, WITH_A, 40) + Reads.some(1, WITH_C, 40) + Reads.some(1, PLAIN, 40), 1,
             "ref\t9\t.\tG\tA,C\t14\t.\t.\tGT:DP:AD:PL\t0/1:3:1,1,1:14,0,44,0,20,44");
     }
 
     private static void severalOtherBases() {
         // Equally often seen ones go by A C G T; the third one is no allele, but it is seen.
-        lines(some(1, WITH_T, 40) + some(1, WITH_C, 40) + some(1, WITH_A, 40), 1,
+        Due.lines(Reads.some(1, WITH_T, 40) + Reads.some(1, WITH_C, 40) + Reads.some(1, WITH_A, 40), 1,
             "ref\t9\t.\tG\tA,C\t34\t.\t.\tGT:DP:AD:PL\t1/2:3:0,1,1:34,17,24,17,0,24");
         // The one more often seen goes first, whatever its quality.
-        lines(some(2, WITH_T, 20) + some(1, WITH_A, 93), 1,
+        Due.lines(Reads.some(2, WITH_T, 20) + Reads.some(1, WITH_A, 93), 1,
             "ref\t9\t.\tG\tT,A\t84\t.\t.\tGT:DP:AD:PL\t1/2:3:0,2,1:84,70,74,14,0,21");
         // The choice may be 2/2, when the letters of allele 1 are worth little.
-        lines(some(2, WITH_A, 0) + some(2, WITH_C, 93), 1,
+        Due.lines(Reads.some(2, WITH_A, 0) + Reads.some(2, WITH_C, 93), 1,
             "ref\t9\t.\tG\tA,C\t160\t.\t.\tGT:DP:AD:PL\t0/2:4:0,2,2:160,186,190,0,26,4");
-        lines(some(4, WITH_A, 0) + some(4, WITH_C, 93), 1,
+        Due.lines(Reads.some(4, WITH_A, 0) + Reads.some(4, WITH_C, 93), 1,
             "ref\t9\t.\tG\tA,C\t342\t.\t.\tGT:DP:AD:PL\t2/2:8:0,4,4:255,255,255,2,34,0");
     }
 
     private static void greatPenalties() {
-        lines(some(8, WITH_A, 93), 1, "ref\t9\t.\tG\tA\t714\t.\t.\tGT:DP:AD:PL\t1/1:8:0,8:255,14,0");
+        Due.lines(Reads.some(8, WITH_A, 93), 1, "ref\t9\t.\tG\tA\t714\t.\t.\tGT:DP:AD:PL\t1/1:8:0,8:255,14,0");
     }
 
     private static void lossesAndGains() {
-        lines(some(4, LOSS_OF_TWO, 40), 2, "ref\t13\t.\tCAT\tC\t130\t.\t.\tGT:DP:AD:PL\t1/1:4:0,4:130,2,0");
-        lines(some(4, GAIN_OF_TWO, 40), 2, "ref\t13\t.\tC\tCGT\t130\t.\t.\tGT:DP:AD:PL\t1/1:4:0,4:130,2,0");
-        lines(some(4, Reads.opposite(GAIN_OF_TWO), 40), 2,
+        Due.lines(Reads.some(4, LOSS_OF_TWO, 40), 2, "ref\t13\t.\tCAT\tC\t130\t.\t.\tGT:DP:AD:PL\t1/1:4:0,4:130,2,0");
+        Due.lines(Reads.some(4, GAIN_OF_TWO, 40), 2, "ref\t13\t.\tC\tCGT\t130\t.\t.\tGT:DP:AD:PL\t1/1:4:0,4:130,2,0");
+        Due.lines(Reads.some(4, Reads.opposite(GAIN_OF_TWO), 40), 2,
             "ref\t13\t.\tC\tCGT\t130\t.\t.\tGT:DP:AD:PL\t1/1:4:0,4:130,2,0");
-        lines(some(4, "GGCTCCTTCGAACT", 40), 3, "ref\t13\t.\tCATG\tC\t130\t.\t.\tGT:DP:AD:PL\t1/1:4:0,4:130,2,0");
-        lines(some(4, "CATGTATCGAACT", 40), 1, "ref\t17\t.\tT\tTA\t130\t.\t.\tGT:DP:AD:PL\t1/1:4:0,4:130,2,0");
-        lines(some(4, "GCTCCAAAATGTT", 40), 3, "ref\t13\t.\tC\tCAAA\t130\t.\t.\tGT:DP:AD:PL\t1/1:4:0,4:130,2,0");
-        lines(some(4, "GCTCCTTTATGTT", 40), 3, "ref\t13\t.\tC\tCTTT\t130\t.\t.\tGT:DP:AD:PL\t1/1:4:0,4:130,2,0");
-        lines(some(2, LOSS_OF_TWO, 40) + some(2, GAIN_OF_TWO, 40), 2,
+        Due.lines(Reads.some(4, "GGCTCCTTCGAACT", 40), 3,
+            "ref\t13\t.\tCATG\tC\t130\t.\t.\tGT:DP:AD:PL\t1/1:4:0,4:130,2,0");
+        Due.lines(Reads.some(4, "CATGTATCGAACT", 40), 1,
+            "ref\t17\t.\tT\tTA\t130\t.\t.\tGT:DP:AD:PL\t1/1:4:0,4:130,2,0");
+        Due.lines(Reads.some(4, "GCTCCAAAATGTT", 40), 3,
+            "ref\t13\t.\tC\tCAAA\t130\t.\t.\tGT:DP:AD:PL\t1/1:4:0,4:130,2,0");
+        Due.lines(Reads.some(4, "GCTCCTTTATGTT", 40), 3,
+            "ref\t13\t.\tC\tCTTT\t130\t.\t.\tGT:DP:AD:PL\t1/1:4:0,4:130,2,0");
+        Due.lines(Reads.some(2, LOSS_OF_TWO, 40) + Reads.some(2, GAIN_OF_TWO, 40), 2,
             "ref\t13\t.\tCAT\tC,CGTAT\t108\t.\t.\tGT:DP:AD:PL\t1/2:4:0,2,2:108,54,58,54,0,58");
-        lines(some(2, LOSS_OF_TWO, 40) + some(2, LOSS_OF_ONE, 40), 2,
+        Due.lines(Reads.some(2, LOSS_OF_TWO, 40) + Reads.some(2, LOSS_OF_ONE, 40), 2,
             "ref\t13\t.\tCAT\tCT,C\t108\t.\t.\tGT:DP:AD:PL\t1/2:4:0,2,2:108,54,58,54,0,58");
     }
 
@@ -105,43 +94,43 @@ final class TableTest {
         String shortGain = "GCTCCTATGTT";
         String gainOfGA = "GCTCCGAATGTT";
         // Losses before gains and shorter ones first, when equally often seen.
-        lines(some(1, GAIN_OF_TWO, 40) + some(1, shortGain, 40) + some(1, LOSS_OF_TWO, 40), 2,
+        Due.lines(Reads.some(1, GAIN_OF_TWO, 40) + Reads.some(1, shortGain, 40) + Reads.some(1, LOSS_OF_TWO, 40), 2,
             "ref\t13\t.\tCAT\tC,CTAT\t34\t.\t.\tGT:DP:AD:PL\t1/2:3:0,1,1:34,17,24,17,0,24");
-        lines(some(1, GAIN_OF_TWO, 40) + some(1, shortGain, 40), 2,
+        Due.lines(Reads.some(1, GAIN_OF_TWO, 40) + Reads.some(1, shortGain, 40), 2,
             "ref\t13\t.\tC\tCT,CGT\t34\t.\t.\tGT:DP:AD:PL\t1/2:2:0,1,1:34,17,24,17,0,24");
         // Gains of one length by the alphabet.
-        lines(some(1, GAIN_OF_TWO, 40) + some(1, gainOfGA, 40), 2,
+        Due.lines(Reads.some(1, GAIN_OF_TWO, 40) + Reads.some(1, gainOfGA, 40), 2,
             "ref\t13\t.\tC\tCGA,CGT\t34\t.\t.\tGT:DP:AD:PL\t1/2:2:0,1,1:34,17,24,17,0,24");
         // How often they are seen goes before all that.
-        lines(some(2, GAIN_OF_TWO, 40) + some(1, LOSS_OF_ONE, 40), 2,
+        Due.lines(Reads.some(2, GAIN_OF_TWO, 40) + Reads.some(1, LOSS_OF_ONE, 40), 2,
             "ref\t13\t.\tCA\tCGTA,C\t71\t.\t.\tGT:DP:AD:PL\t1/2:3:0,2,1:71,17,21,54,0,61");
     }
 
     private static void theLesserQualityOfALink() {
         // The letters on both sides of the loss have 40 and 25, so the link has 25.
         String qualities = "IIIIII:IIIII";
-        lines(Reads.read(LOSS_OF_TWO, qualities), 2,
+        Due.lines(Reads.read(LOSS_OF_TWO, qualities), 2,
             "ref\t13\t.\tCAT\tC\t2\t.\t.\tGT:DP:AD:PL\t0/1:1:0,1:2,0,7");
-        lines(Reads.read(Reads.opposite(LOSS_OF_TWO), "IIIII:IIIIII"), 2,
+        Due.lines(Reads.read(Reads.opposite(LOSS_OF_TWO), "IIIII:IIIIII"), 2,
             "ref\t13\t.\tCAT\tC\t2\t.\t.\tGT:DP:AD:PL\t0/1:1:0,1:2,0,7");
         // The letter put in has no part in it.
-        lines(Reads.read("GCTCCTATGTT", "IIIII!IIIII"), 2,
+        Due.lines(Reads.read("GCTCCTATGTT", "IIIII!IIIII"), 2,
             "ref\t13\t.\tC\tCT\t17\t.\t.\tGT:DP:AD:PL\t0/1:1:0,1:17,0,7");
     }
 
     private static void severalLines() {
         // From the back, the letter that differs goes to the last position that it can stand for.
-        lines(some(4, "GGCTCGTGTTCG", 40), 2,
+        Due.lines(Reads.some(4, "GGCTCGTGTTCG", 40), 2,
             "ref\t11\t.\tTC\tT\t130\t.\t.\tGT:DP:AD:PL\t1/1:4:0,4:130,2,0",
             "ref\t14\t.\tA\tG\t130\t.\t.\tGT:DP:AD:PL\t1/1:4:0,4:130,2,0");
         // Bases before links.
-        lines(some(4, LOSS_OF_ONE, 40) + some(4, "GGCTCGATGTTC", 40), 2,
+        Due.lines(Reads.some(4, LOSS_OF_ONE, 40) + Reads.some(4, "GGCTCGATGTTC", 40), 2,
             "ref\t13\t.\tC\tG\t116\t.\t.\tGT:DP:AD:PL\t0/1:8:4,4:116,0,146",
             "ref\t13\t.\tCA\tC\t116\t.\t.\tGT:DP:AD:PL\t0/1:8:4,4:116,0,146");
     }
 
     private static void theEndsOfTheTable() {
-        Run run = new Run(Reads.REFERENCE, some(4, WITH_A, 40), 1);
+        Run run = new Run(Reads.REFERENCE, Reads.some(4, WITH_A, 40), 1);
         int length = run.x().length();
         Check.same("the last letter", run.x().letter(length - 1), 10);
         int[] others = {Integer.MIN_VALUE, -1, length, length + 1, 100000, Integer.MAX_VALUE};
@@ -149,8 +138,8 @@ final class TableTest {
             Check.same("letter(" + k + ")", run.x().letter(k), 0);
         }
         // A shorter table behind a longer one.
-        String[] before = {Reads.REFERENCE, some(4, WITH_A, 40)};
-        run = new Run(before, 1, Reads.REFERENCE, some(4, PLAIN, 40), 1);
+        String[] before = {Reads.REFERENCE, Reads.some(4, WITH_A, 40)};
+        run = new Run(before, 1, Reads.REFERENCE, Reads.some(4, PLAIN, 40), 1);
         Check.same("length()", run.x().length(), 69);
         Check.same("letter(69)", run.x().letter(69), 0);
         Check.same("table", run.table(), Reads.FIRST_LINES);
